@@ -1,14 +1,24 @@
 /** Counts and prints the answers that are not the ones due. */
 final class Checks {
+    private String at = "";
     private int wrong = 0;
     private int seen = 0;
+
+    /** What is checked from now on belongs to this case. */
+    void begin(String name) {
+        at = name + ": ";
+    }
+
+    int seen() {
+        return seen;
+    }
 
     void due(String what, long want, long got) {
         seen++;
         if (got != want) {
             wrong++;
             if (wrong <= 50) {
-                System.out.println(what + " answered " + got + ", due is " + want);
+                System.out.println(at + what + " answered " + got + ", due is " + want);
             }
         }
     }
