@@ -16,6 +16,55 @@ public final class QueryBoundaryTest {
         Cases.runAll(QueryBoundaryTest.class);
     }
 
+    // "An object is used for at most 512 calls after it has been made"
+
+    static void termsTheLastCallAfterManySets() {
+        RevisionQueries x = new RevisionQueries();
+        Cases.giveInput(x, 0, 0);
+        for (int n = 3; n <= 511; n++) {
+            c.due("set, call " + n, 1, x.set(0, n));
+        }
+        c.due("value(0), call 512", 511, x.value(0));
+    }
+
+    static void termsTheLastCallAfterManyBodies() {
+        RevisionQueries x = new RevisionQueries();
+        for (int n = 2; n <= 510; n += 2) {
+            c.due("num, call " + (n - 1), 1, x.num(n));
+            c.due("finish, call " + n, 1, x.finish(n / 2 % 8));
+        }
+        c.due("value(7), call 511", 510, x.value(7));
+        c.due("value(0), call 512", 496, x.value(0));
+    }
+
+    static void termsTheLastCallAfterManyReadings() {
+        RevisionQueries x = Cases.in(QueryBoundaryTest::circularSides);
+        // Ten calls have been made; each round of five asks for all that can be computed.
+        for (int n = 10; n < 510; n += 5) {
+            c.due("value(0) after call " + n, 44, x.value(0));
+            c.due("needs(1) after call " + n, CIRCULAR, x.needs(1));
+            c.due("total() after call " + n, 44 + 5 * 44, x.total());
+            c.due("circulars() after call " + n, 1 << 1 | 1 << 3, x.circulars());
+            c.due("stirred(0, 1) after call " + n, 2, x.stirred(0, 1));
+        }
+        c.due("set(0, 1), call 511", 1, x.set(0, 1));
+        c.due("circulars(), call 512", 1 | 1 << 3, x.circulars());
+    }
+
+    static void termsTheLastCallAfterManyDrafts() {
+        RevisionQueries x = new RevisionQueries();
+        for (int n = 0; n < 506; n += 11) {
+            for (int t = 1; t <= 10; t++) {
+                c.due("num, call " + (n + t), t, x.num(n));
+            }
+            x.scrap();
+        }
+        for (int t = 1; t <= 5; t++) {
+            c.due("input, call " + (506 + t), t, x.input(t));
+        }
+        c.due("drafted(), call 512", 5, x.drafted());
+    }
+
     // "a BODY, a list of at most 10 TOKENS worked off from the first to the last"
 
     static void termsTenTokensAreWorkedOffFirstToLast() {
